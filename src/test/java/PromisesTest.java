@@ -901,7 +901,7 @@ public final class PromisesTest {
         for (int n = 1; n <= 6; n++) {
             x.see(0, 0, 1);
         }
-        due(x.which(0), 17 - 7 + 1);
+        due(x.which(0), 18 - 7);
         x.see(0, 1, 1);
         due(x.unsee(), 6);
         due(x.about(7), 0);
