@@ -1,49 +1,7 @@
 /** Every promise by hand: ordinary inputs, the edges that the document names, and wrong inputs. */
-public final class PromisesTest {
-    private static final int UNKNOWN = -1, BAD = -2, LATE = -3, FULL = -4, NONE = -9;
-    private static final int LOW = Integer.MIN_VALUE, HIGH = Integer.MAX_VALUE;
-
-    private static int promise = 0;
-    private static int row = 0;
-    private static int asked = 0;
-    private static int wrong = 0;
-
-    private static void of(int number) {
-        promise = number;
-        row = 0;
-    }
-
-    private static void due(long got, long want) {
-        row++;
-        asked++;
-        if (got != want) {
-            wrong++;
-            System.out.println("promise " + promise + ", row " + row + " answered " + got + ", due is " + want
-                    + " (" + Thread.currentThread().getStackTrace()[2] + ")");
-        }
-    }
-
-    private static void type(SkyTenders x, String text) {
-        x.wipe();
-        for (char letter : text.toCharArray()) {
-            x.write(letter);
-        }
-    }
-
-    private static SkyTenders told(String text) {
-        SkyTenders x = new SkyTenders();
-        type(x, text);
-        if (x.tender() < 0) {
-            wrong++;
-            System.out.println("promise " + promise + ": " + text + " is no tender");
-        }
-        return x;
-    }
-
-    private static int faultOf(String text) {
-        SkyTenders x = new SkyTenders();
-        type(x, text);
-        return x.fault();
+public final class PromisesTest extends Asking {
+    private static void of(int promise) {
+        asksOf("promise " + promise);
     }
 
     public static void main(String[] args) {
@@ -84,10 +42,7 @@ public final class PromisesTest {
         keep();
         again();
         refusalsChangeNothing();
-        System.out.println(asked + " answers looked at, " + wrong + " wrong");
-        if (wrong != 0 || asked == 0) {
-            System.exit(1);
-        }
+        end();
     }
 
     private static void newObject() {
