@@ -411,7 +411,7 @@ final class PromiseBoundaries extends Sentences {
             due(x.cost(-1), BAD);
             bound *= 10;
         }
-        // 4294967296 and 91 more would wrap to 91, but can not be told.
+        // Below 0, whatever its last figures are.
         due(rich().cost(91 - 1000), BAD);
     }
 
@@ -445,8 +445,17 @@ final class PromiseBoundaries extends Sentences {
         due(told("Fr1Fr1Mr01").ran(0), NONE);
         due(told("Fr1Fw1Mrw91").ran(0), NONE);
         due(told("").ran(0), NONE);
-        // The last year of all.
         due(told("Fr1Fr1Mr10").ran(0), 0);
+        // Each time anew.
+        SkyTenders again = told("Fr1Fr1Mr91");
+        due(again.ran(0), 0);
+        again.bear(0);
+        due(again.ran(0), NONE);
+        again.bear(1);
+        due(again.ran(0), 0);
+        type(again, "Fr1Mr91");
+        again.tender();
+        due(again.ran(0), NONE);
         says(17, "what all YEARS cost together (1), STOCKS that are left behind them, as figures, MAKER 0 first"
                 + " (2; without MAKERS 0).");
         due(leavesAll(Sentences::rich, x -> x.ran(1)), 40);

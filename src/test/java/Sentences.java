@@ -98,6 +98,8 @@ abstract class Sentences extends Asking {
         x.see(0, 0, 0);
         x.seed(77);
         x.write('F');
+        // Far from what stands: what only would be leaves nothing behind for the next call.
+        x.judge(4, 1009210030054000L);
         return x;
     }
 

@@ -123,6 +123,9 @@ final class SupplyBoundaries extends Sentences {
         due(told("Fr5Fr3Fr3Mr39").most(1), 2);
         due(told("Fw1Fr3Fr3Mr39").most(1), 2);
         due(told("Fr3Fw1Fr3Mr39").most(1), 1);
+        // One that takes all stays without for two that take less.
+        due(told("Fr5Fw2Fs3Mrws50").most(1), 2);
+        due(told("Fr5Fw3Fs3Mrws50").most(1), 1);
         // Patience holds here, too.
         SkyTenders x = told("Fr3Fr3Fr3Fr3Mr39");
         for (int v = 0; v <= 4; v++) {

@@ -435,6 +435,24 @@ final class TenderBoundaries extends Sentences {
             due(y.about(6), Math.min(n, 14));
         }
         dueBack(y, 26 % 10);
+        // One of another kind, of another maker, is forgotten, and the others are undone as they were done.
+        SkyTenders z = told("Fr1Fr2Mr95Mr71");
+        z.restock(1, 0);
+        z.reprice(1, 9);
+        for (int n = 1; n <= 4; n++) {
+            z.bear(n);
+            z.want(1, n + 1);
+            z.restock(0, n);
+        }
+        due(z.about(6), 14);
+        z.want(0, 5);
+        dueBack(z, 5);
+        due(z.maker(1, 1), 0);
+        due(z.maker(1, 2), 1);
+        due(z.maker(0, 1), 9);
+        due(z.field(0, 1), 1);
+        due(z.field(1, 1), 2);
+        due(z.about(2), 1);
     }
 
     private static void dueBack(SkyTenders x, int price) {
